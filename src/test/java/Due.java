@@ -1,0 +1,34 @@
+/** Compares answers with those that are due, prints the wrong ones, and ends the test. */
+final class Due {
+    // Enough to see what is wrong, without flooding the log when everything is.
+    private static final int MOST_PRINTED = 40;
+
+    private static int checked = 0;
+    private static int wrong = 0;
+
+    private Due() {
+    }
+
+    static void is(String call, int want, int got) {
+        checked++;
+        if (got == want) {
+            return;
+        }
+        wrong++;
+        if (wrong <= MOST_PRINTED) {
+            System.out.println(call + " answered " + got + ", due is " + want);
+        }
+    }
+
+    static void is(String call, boolean want, boolean got) {
+        is(call, want ? 1 : 0, got ? 1 : 0);
+    }
+
+    static void end() {
+        System.out.println(checked + " answers, " + wrong + " not as due");
+        // A test that checks nothing has not passed.
+        if (wrong != 0 || checked == 0) {
+            System.exit(1);
+        }
+    }
+}
