@@ -363,7 +363,9 @@ public final class PromisesTest {
         Due.is("14: no way any more", NONE, x.detour(5, 3, 5, 0));
         for (int no : NOT_PLACES) {
             Due.is("14: detour(0, 3, 0, " + no + ")", 0, x.detour(0, 3, 0, no));
+            Due.is("14: detour(0, 3, 3, " + no + ")", 0, x.detour(0, 3, 3, no));
             Due.is("14: detour(0, 3, " + no + ", 3)", 0, x.detour(0, 3, no, 3));
+            Due.is("14: detour(0, 3, " + no + ", " + no + ")", 0, x.detour(0, 3, no, no));
             Due.is("14: detour(0, " + no + ", 0, 1)", 0, x.detour(0, no, 0, 1));
             Due.is("14: detour(" + no + ", 3, 0, 1)", 0, x.detour(no, 3, 0, 1));
         }
@@ -375,6 +377,10 @@ public final class PromisesTest {
         Due.is("14: both places, not the road", 0, y.detour(0, 3, 1, 2));
         PathRanker wide = network(0, 5, 1, 0, 1, 20, 1, 2, 20, 2, 3, 20, 3, 4, 20, 4, 5, 20);
         Due.is("14: the greatest growth", 99, wide.detour(0, 5, 0, 5));
+        wide.close(0, 5);
+        for (int v = 0; v < 5; v++) {
+            Due.is("14: every road of the longest way", NONE, wide.detour(0, 5, v, v + 1));
+        }
     }
 
     private static void detourChangesNothing() {
