@@ -5,18 +5,33 @@ final class Due {
 
     private static int checked = 0;
     private static int wrong = 0;
+    private static String sentence = "";
 
     private Due() {
     }
 
+    /**
+     * A test of its own for one sentence of the document. What it throws is told as its failure, so
+     * that the tests after it still run.
+     */
+    static void test(String ofSentence, Runnable body) {
+        int checkedBefore = checked;
+        sentence = "[" + ofSentence + "] ";
+        try {
+            body.run();
+        } catch (RuntimeException thrown) {
+            tellWrong("threw " + thrown);
+        }
+        if (checked == checkedBefore) {
+            tellWrong("checked nothing");
+        }
+        sentence = "";
+    }
+
     static void is(String call, int want, int got) {
         checked++;
-        if (got == want) {
-            return;
-        }
-        wrong++;
-        if (wrong <= MOST_PRINTED) {
-            System.out.println(call + " answered " + got + ", due is " + want);
+        if (got != want) {
+            tellWrong(call + " answered " + got + ", due is " + want);
         }
     }
 
@@ -29,6 +44,13 @@ final class Due {
         // A test that checks nothing has not passed.
         if (wrong != 0 || checked == 0) {
             System.exit(1);
+        }
+    }
+
+    private static void tellWrong(String what) {
+        wrong++;
+        if (wrong <= MOST_PRINTED) {
+            System.out.println(sentence + what);
         }
     }
 }
