@@ -10,6 +10,9 @@ final class Asked {
     static final int PLACES = 6;
     static final int MOST_CALLS = 512;
 
+    // Enough of the changes before a wrong answer for the full network.
+    private static final int MOST_TOLD = 600;
+
     /**
      * Numbers beside the places, and numbers that would pass for a place if they were cut to fewer
      * bits (32, 37, 256, 65536), used as a shift (32, 37), or multiplied by six with wrap-around
@@ -175,6 +178,11 @@ final class Asked {
         if (calls > MOST_CALLS) {
             throw new IllegalStateException("the test makes more than " + MOST_CALLS + " calls on one object");
         }
-        Due.is(name + Arrays.toString(arguments) + " after" + changes, want, got);
+        Due.is(name + Arrays.toString(arguments) + " after" + latestChanges(), want, got);
+    }
+
+    private String latestChanges() {
+        int from = changes.length() - MOST_TOLD;
+        return from <= 0 ? changes.toString() : " .." + changes.substring(from);
     }
 }

@@ -108,6 +108,7 @@ public final class AvoidBoundariesTest {
 
     private static void mustsNoPair() {
         Asked x = line();
+        x.due(30).musts(0, 5);
         for (int v = 0; v < PLACES; v++) {
             x.due(0).musts(v, v);
             for (int no : NOT_PLACES) {
@@ -159,6 +160,7 @@ public final class AvoidBoundariesTest {
     private static void avoidingNoPair() {
         for (int v = 0; v < PLACES; v++) {
             Asked x = Asked.full(1);
+            x.due(65).ways(0, 1);
             for (int s = 0; s < PLACES; s++) {
                 x.due(NONE).firstAvoiding(s, s, v);
                 for (int no : NOT_PLACES) {
@@ -316,6 +318,7 @@ public final class AvoidBoundariesTest {
 
     private static void detourSameEnds() {
         Asked x = Asked.full(4);
+        x.due(4).detour(0, 1, 0, 1);
         for (int v = 0; v < PLACES; v++) {
             for (int b = 0; b < PLACES; b++) {
                 x.due(0).detour(v, v, v, b);
@@ -327,6 +330,7 @@ public final class AvoidBoundariesTest {
     private static void detourNoEnds() {
         for (int no : NOT_PLACES) {
             Asked x = line();
+            x.due(NONE).detour(0, 5, 0, 1);
             for (int v = 0; v < PLACES; v++) {
                 x.due(0).detour(v, no, 0, 1);
                 x.due(0).detour(no, v, 0, 1);

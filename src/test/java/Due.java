@@ -1,10 +1,11 @@
 /** Compares answers with those that are due, prints the wrong ones, and ends the test. */
 final class Due {
-    // Enough to see what is wrong, without flooding the log when everything is.
-    private static final int MOST_PRINTED = 40;
+    // Of one sentence; enough to see what is wrong, without flooding the log when everything is.
+    private static final int MOST_PRINTED = 10;
 
     private static int checked = 0;
     private static int wrong = 0;
+    private static int printed = 0;
     private static String sentence = "";
 
     private Due() {
@@ -17,6 +18,7 @@ final class Due {
     static void test(String ofSentence, Runnable body) {
         int checkedBefore = checked;
         sentence = "[" + ofSentence + "] ";
+        printed = 0;
         try {
             body.run();
         } catch (RuntimeException thrown) {
@@ -49,7 +51,8 @@ final class Due {
 
     private static void tellWrong(String what) {
         wrong++;
-        if (wrong <= MOST_PRINTED) {
+        printed++;
+        if (printed <= MOST_PRINTED) {
             System.out.println(sentence + what);
         }
     }

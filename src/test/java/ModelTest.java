@@ -44,8 +44,11 @@ public final class ModelTest {
     }
 
     private int anyPlace() {
-        int[] strange = {-1, 6, 7, Integer.MIN_VALUE, Integer.MAX_VALUE};
-        return below(40) == 0 ? strange[below(strange.length)] : below(PLACES);
+        return below(40) == 0 ? strange() : below(PLACES);
+    }
+
+    private int strange() {
+        return Asked.NOT_PLACES[below(Asked.NOT_PLACES.length)];
     }
 
     private void oneCall(int call) {
@@ -74,10 +77,10 @@ public final class ModelTest {
 
     private void askWays(int kind, int s, int t) {
         List<int[]> ways = rankedWays(s, t);
-        int k = below(4) == 0 ? below(70) - 2 : below(ways.size() + 1);
+        int k = below(20) == 0 ? strange() : below(4) == 0 ? below(70) - 2 : below(ways.size() + 1);
         int[] way = k >= 0 && k < ways.size() ? ways.get(k) : null;
-        int i = below(9) - 1;
-        int n = below(5 * longest + 2);
+        int i = below(20) == 0 ? strange() : below(9) - 1;
+        int n = below(20) == 0 ? strange() : below(5 * longest + 2);
         int v = anyPlace();
         int w = anyPlace();
         switch (kind % 9) {

@@ -273,7 +273,10 @@ public final class WayBoundariesTest {
 
     private static void waysToItself() {
         for (int v = 0; v < PLACES; v++) {
-            Asked.full(1).due(0).ways(v, v);
+            Asked x = Asked.full(1);
+            // The question before had ways, which must not answer this one.
+            x.due(65).ways(v, (v + 1) % PLACES);
+            x.due(0).ways(v, v);
             new Asked().due(0).ways(v, v);
             Asked.network(v, (v + 1) % PLACES, 1, (v + 1) % PLACES, v, 1).due(0).ways(v, v);
         }
@@ -282,6 +285,7 @@ public final class WayBoundariesTest {
     private static void waysFromNoPlace() {
         for (int no : NOT_PLACES) {
             Asked x = Asked.full(1);
+            x.due(65).ways(0, 1);
             for (int v = 0; v < PLACES; v++) {
                 x.due(0).ways(no, v);
             }
@@ -291,6 +295,7 @@ public final class WayBoundariesTest {
     private static void waysToNoPlace() {
         for (int no : NOT_PLACES) {
             Asked x = Asked.full(1);
+            x.due(65).ways(0, 1);
             for (int v = 0; v < PLACES; v++) {
                 x.due(0).ways(v, no);
             }
@@ -337,6 +342,7 @@ public final class WayBoundariesTest {
 
     private static void lengthNoPair() {
         Asked x = Asked.full(3);
+        x.due(65).ways(0, 1);
         for (int v = 0; v < PLACES; v++) {
             x.due(NONE).length(v, v, 0);
             for (int no : NOT_PLACES) {
@@ -414,6 +420,7 @@ public final class WayBoundariesTest {
 
     private static void placeNoPair() {
         Asked x = Asked.full(3);
+        x.due(65).ways(0, 1);
         for (int v = 0; v < PLACES; v++) {
             // Not even the one place s, which is also t, is a way.
             x.due(NONE).place(v, v, 0, 0);
@@ -455,6 +462,7 @@ public final class WayBoundariesTest {
 
     private static void sizeNoPair() {
         Asked x = Asked.full(3);
+        x.due(65).ways(0, 1);
         for (int v = 0; v < PLACES; v++) {
             x.due(NONE).size(v, v, 0);
             for (int no : NOT_PLACES) {
@@ -502,6 +510,7 @@ public final class WayBoundariesTest {
         x.due(0).within(3, 0, 100);
         x.due(0).within(4, 3, Integer.MAX_VALUE);
         Asked full = Asked.full(1);
+        full.due(65).ways(0, 1);
         for (int v = 0; v < PLACES; v++) {
             full.due(0).within(v, v, 0);
             full.due(0).within(v, v, Integer.MAX_VALUE);
@@ -552,6 +561,7 @@ public final class WayBoundariesTest {
         x.due(0).shortest(3, 0);
         x.due(0).shortest(4, 3);
         Asked full = Asked.full(1);
+        full.due(65).ways(0, 1);
         for (int v = 0; v < PLACES; v++) {
             full.due(0).shortest(v, v);
             for (int no : NOT_PLACES) {
