@@ -55,6 +55,8 @@ public final class FaceTest {
         int modifiers = PathRanker.class.getModifiers();
         Due.is("class is public and final", true, Modifier.isPublic(modifiers) && Modifier.isFinal(modifiers));
         Due.is("nested classes", 0, PathRanker.class.getDeclaredClasses().length);
+        Due.is("extends nothing", true, PathRanker.class.getSuperclass() == Object.class);
+        Due.is("interfaces", 0, PathRanker.class.getInterfaces().length);
         Due.is("NONE", -1, PathRanker.NONE);
         Due.end();
     }

@@ -1,26 +1,29 @@
 /**
- * Each promise with ordinary inputs. The boundary cases have tests of their own, in the files
- * named ...BoundariesTest.java.
+ * What each promise's sentence says first, with ordinary inputs. What it says of boundary cases and
+ * wrong inputs has tests of its own, in the files named ...BoundariesTest.java.
  */
 public final class PromisesTest {
     private static final int NONE = Asked.NONE;
     private static final int PLACES = Asked.PLACES;
 
     public static void main(String[] args) {
-        Due.test("1: a new object", PromisesTest::newObject);
-        Due.test("2: build", PromisesTest::build);
-        Due.test("3: close", PromisesTest::close);
-        Due.test("4: road", PromisesTest::road);
-        Due.test("5: roads", PromisesTest::roads);
-        Due.test("6: ways", PromisesTest::ways);
-        Due.test("7: length", PromisesTest::length);
-        Due.test("8: place", PromisesTest::place);
-        Due.test("9: size", PromisesTest::size);
-        Due.test("10: within", PromisesTest::within);
-        Due.test("11: shortest", PromisesTest::shortest);
-        Due.test("12: musts", PromisesTest::musts);
-        Due.test("13: firstAvoiding", PromisesTest::firstAvoiding);
-        Due.test("14: detour", PromisesTest::detour);
+        Due.test("1: no roads", PromisesTest::newObject);
+        Due.test("2: builds a road from a to b and answers true", PromisesTest::build);
+        Due.test("3: takes the road from a to b away and answers true", PromisesTest::close);
+        Due.test("4: the length of the road from a to b", PromisesTest::road);
+        Due.test("5: the number of roads", PromisesTest::roads);
+        Due.test("6: the number of ways from s to t", PromisesTest::ways);
+        Due.test("7: the length of the way with rank k", PromisesTest::length);
+        Due.test("8: place number i of the way with rank k", PromisesTest::place);
+        Due.test("9: the number of places of the way with rank k", PromisesTest::size);
+        Due.test("10: the number of ways that are at most n long", PromisesTest::within);
+        Due.test("11: the number of ways that have the least length", PromisesTest::shortest);
+        Due.test("12: the places that are on every way", PromisesTest::musts);
+        Due.test("13: the least rank of a way that does not come through v", PromisesTest::firstAvoiding);
+        Due.test("14: by how much the least length would grow", PromisesTest::detour);
+
+        Due.test("Not promised: no state change but by build and close", PromisesTest::questionsChangeNothing);
+        Due.test("6 to 14: of the roads that are there now", PromisesTest::answersFollowChanges);
         Due.end();
     }
 
@@ -151,5 +154,67 @@ public final class PromisesTest {
         x.due(true).close(0, 2);
         x.due(3).detour(0, 3, 0, 1);
         x.due(1).detour(0, 3, 1, 3);
+    }
+
+    private static void questionsChangeNothing() {
+        int[] roads = {0, 1, 2, 1, 3, 2, 0, 2, 3, 2, 3, 1, 1, 2, 2, 0, 3, 7, 0, 4, 1, 5, 0, 6};
+        Asked x = Asked.network(roads);
+        // Twice each: a question that changed something would answer otherwise the second time.
+        for (int round = 0; round < 2; round++) {
+            askAll(x);
+            x.hasRoads(roads);
+        }
+    }
+
+    private static void askAll(Asked x) {
+        x.due(7).road(0, 3);
+        x.due(NONE).road(3, 0);
+        x.due(8).roads();
+        x.due(4).ways(0, 3);
+        x.due(5).length(0, 3, 2);
+        x.due(2).place(0, 3, 2, 2);
+        x.due(4).size(0, 3, 2);
+        x.due(3).within(0, 3, 6);
+        x.due(2).shortest(0, 3);
+        x.due(1).musts(5, 3);
+        x.due(1).firstAvoiding(0, 3, 1);
+        x.due(1).detour(1, 3, 1, 3);
+        x.due(NONE).detour(5, 3, 5, 0);
+    }
+
+    /** Each question right before and right after a change of the roads that it depends on. */
+    private static void answersFollowChanges() {
+        Asked x = Asked.network(0, 1, 1, 1, 2, 1);
+        askOneWay(x);
+        x.due(true).build(0, 2, 2);
+        x.due(2).ways(0, 2);
+        x.due(2).length(0, 2, 1);
+        x.due(2).place(0, 2, 1, 1);
+        x.due(2).size(0, 2, 1);
+        x.due(2).within(0, 2, 2);
+        x.due(2).shortest(0, 2);
+        x.due(0).musts(0, 2);
+        x.due(1).firstAvoiding(0, 2, 1);
+        x.due(0).detour(0, 2, 0, 1);
+        x.due(true).build(0, 2, 9);
+        x.due(9).length(0, 2, 1);
+        x.due(1).within(0, 2, 2);
+        x.due(1).shortest(0, 2);
+        x.due(7).detour(0, 2, 0, 1);
+        x.due(true).close(0, 2);
+        askOneWay(x);
+    }
+
+    /** The only way from 0 to 2 is 0 1 2. */
+    private static void askOneWay(Asked x) {
+        x.due(1).ways(0, 2);
+        x.due(NONE).length(0, 2, 1);
+        x.due(NONE).place(0, 2, 1, 1);
+        x.due(NONE).size(0, 2, 1);
+        x.due(1).within(0, 2, 2);
+        x.due(1).shortest(0, 2);
+        x.due(2).musts(0, 2);
+        x.due(NONE).firstAvoiding(0, 2, 1);
+        x.due(NONE).detour(0, 2, 0, 1);
     }
 }
